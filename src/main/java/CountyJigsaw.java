@@ -736,17 +736,13 @@ public final class CountyJigsaw {
             return place;
         }
 
-        boolean isTurned(int piece) {
-            return (turned >> piece & 1) == 1;
-        }
-
         /** The edge that shows on the left, which for a TURNED PIECE is its RIGHT one. */
         int shownLeft(int piece) {
-            return isTurned(piece) ? right[piece] : left[piece];
+            return (turned >> piece & 1) == 0 ? left[piece] : right[piece];
         }
 
         int shownRight(int piece) {
-            return isTurned(piece) ? left[piece] : right[piece];
+            return (turned >> piece & 1) == 0 ? right[piece] : left[piece];
         }
 
         int gapOf(int a, int b) {
@@ -987,11 +983,10 @@ public final class CountyJigsaw {
 
         private final int[] bytes = new int[MOST_BYTES];
         int length;
-        /** The TOKEN that stands next: its sort, first byte, the byte behind it, and its value. */
+        /** The TOKEN that stands next: its sort, its first byte, and the byte behind it. */
         private int sort;
         private int begin;
         private int end;
-        private int value;
 
         /** The caller has seen that there is room. */
         void append(int number, int n) {
@@ -1083,12 +1078,12 @@ public final class CountyJigsaw {
 
         /** The NUMBER that stands next, which is passed; or -1, if none of 0 to most does. */
         private int readNumber(int most) {
-            if (sort != NUMBER || value > most) {
+            int value = sort == NUMBER ? valueOfDigits() : ABOVE_NUMBERS;
+            if (value > most) {
                 return -1;
             }
-            int number = value;
             step();
-            return number;
+            return value;
         }
 
         private int kindNamed() {
@@ -1130,41 +1125,35 @@ public final class CountyJigsaw {
             while (begin < length && bytes[begin] == ' ') {
                 begin++;
             }
-            end = begin;
-            if (begin >= length) {
-                sort = END;
-            } else if (isLetter(begin)) {
-                sort = WORD;
-                takeLetters();
-            } else if (isDigit(begin)) {
-                sort = NUMBER;
-                takeDigits();
-            } else {
-                sort = bytes[begin] == ';' ? SIGN : OTHER;
+            sort = sortAt(begin);
+            end = sort == END ? begin : begin + 1;
+            boolean isLong = sort == WORD || sort == NUMBER;
+            while (isLong && end < length && sortAt(end) == sort) {
                 end++;
             }
         }
 
-        private void takeLetters() {
-            while (end < length && isLetter(end)) {
-                end++;
+        /** The sort of TOKEN of which a byte is. */
+        private int sortAt(int i) {
+            if (i >= length) {
+                return END;
             }
-        }
-
-        private void takeDigits() {
-            value = 0;
-            while (end < length && isDigit(end)) {
-                value = Math.min(10 * value + bytes[end] - '0', ABOVE_NUMBERS);
-                end++;
+            if (bytes[i] >= 'a' && bytes[i] <= 'z') {
+                return WORD;
             }
+            if (bytes[i] >= '0' && bytes[i] <= '9') {
+                return NUMBER;
+            }
+            return bytes[i] == ';' ? SIGN : OTHER;
         }
 
-        private boolean isLetter(int i) {
-            return bytes[i] >= 'a' && bytes[i] <= 'z';
-        }
-
-        private boolean isDigit(int i) {
-            return bytes[i] >= '0' && bytes[i] <= '9';
+        /** What the digits of the TOKEN that stands next tell, cut where it is too much for any NUMBER. */
+        private int valueOfDigits() {
+            int value = 0;
+            for (int i = begin; i < end; i++) {
+                value = Math.min(10 * value + bytes[i] - '0', ABOVE_NUMBERS);
+            }
+            return value;
         }
     }
 

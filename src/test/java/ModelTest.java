@@ -1,3 +1,4 @@
+import java.math.BigInteger;
 import java.util.ArrayList;
 import java.util.Arrays;
 import java.util.Collections;
@@ -5,14 +6,20 @@ import java.util.HashMap;
 import java.util.List;
 import java.util.Map;
 import java.util.Random;
+import java.util.regex.Matcher;
+import java.util.regex.Pattern;
 
 /**
  * Long runs of calls, drawn from fixed seeds, on the class and on a slow model that follows the document word by word.
  * The model says each thing in another way than the class: kinds as classes, layings by all orders, tokens as a list.
  */
 public final class ModelTest {
-    private static final int RUNS = 400;
+    private static final int RUNS = 300;
     private static final int CALLS = 512;
+    private static final List<String> METHODS = List.of("list", "listed", "piece", "of", "change", "lies", "gap", "edge",
+        "swap", "go", "now", "ahead", "sum", "when", "comes", "granted", "best", "bestAt", "settle", "edgeFor", "kindFor",
+        "turn", "fits", "kinds", "tip", "odds", "seed", "feed", "wipe", "text", "hold", "as", "sheet", "write", "copy",
+        "load", "judge", "image", "undo", "tear", "count", "status");
 
     public static void main(String[] args) {
         Checks checks = new Checks();
@@ -41,13 +48,13 @@ public final class ModelTest {
         void go() {
             int pieces = random.nextInt(9);
             for (int i = 0; i < pieces; i++) {
-                call(2, upTo(7), upTo(10), upTo(10), 0, 0);
+                call("piece", upTo(7), upTo(10), upTo(10), 0, 0);
             }
             while (calling > 0 && !checks.isWrong()) {
-                int method = random.nextInt(43);
-                if (method == 29 && random.nextInt(3) > 0) {
+                String method = METHODS.get(random.nextInt(METHODS.size()));
+                if (method.equals("wipe") && random.nextInt(3) > 0) {
                     feedText(randomText());
-                } else if (method != 2 || random.nextInt(4) == 0) {
+                } else if (!method.equals("piece") || random.nextInt(4) == 0) {
                     ordinaryCall(method);
                 }
             }
@@ -75,59 +82,59 @@ public final class ModelTest {
             return random.nextInt(bound);
         }
 
-        private void ordinaryCall(int m) {
+        private void ordinaryCall(String m) {
             int p = near(Math.max(1, model.now.pieces.size()));
             int q = near(Math.max(1, model.now.pieces.size()));
             switch (m) {
-                case 0 -> call(m, near(6), near(8), near(8), 0, 0);
-                case 1 -> call(m, near(6), 0, 0, 0, 0);
-                case 2 -> call(m, near(7), near(10), near(10), 0, 0);
-                case 3 -> call(m, p, near(7), 0, 0, 0);
-                case 4 -> {
+                case "list" -> call(m, near(6), near(8), near(8), 0, 0);
+                case "listed" -> call(m, near(6), 0, 0, 0, 0);
+                case "piece" -> call(m, near(7), near(10), near(10), 0, 0);
+                case "of" -> call(m, p, near(7), 0, 0, 0);
+                case "change" -> {
                     int what = near(5);
                     int[] bounds = {7, 10, 10, 8, 2};
                     int v = what >= 0 && what < 5 ? near(bounds[what]) : near(2);
                     call(m, p, what, v, 0, 0);
                 }
-                case 5, 16, 18, 20, 21 -> call(m, p, 0, 0, 0, 0);
-                case 6, 8 -> call(m, p, q, 0, 0, 0);
-                case 7 -> call(m, p, near(2), 0, 0, 0);
-                case 9 -> call(m, random.nextInt(3) == 0 ? near(61) : 1 + upTo(4), 0, 0, 0, 0);
-                case 10 -> call(m, near(8), 0, 0, 0, 0);
-                case 11 -> call(m, p, random.nextInt(5) == 0 ? near(7) : random.nextBoolean() ? 1 : 5, near(101), 0, 0);
-                case 12 -> call(m, near(101), 0, 0, 0, 0);
-                case 13, 22 -> call(m, random.nextInt(8) == 0 ? near(1000) : near(50), 0, 0, 0, 0);
-                case 14, 15 -> call(m == 14 ? 14 : 15, p, near(8), 0, 0, 0);
-                case 23, 24 -> toldSums(m, p);
-                case 25 -> call(m, near(21), 0, 0, 0, 0);
-                case 26 -> call(m, near(11), near(2), 0, 0, 0);
-                case 27 -> call(m, random.nextInt(), 0, 0, 0, 0);
-                case 28 -> call(m, random.nextInt(), near(5), 0, 0, 0);
-                case 31 -> call(m, near(10), random.nextInt(5) == 0 ? -1 : p, 0, 0, 0);
-                case 32 -> call(m, near(10), near(7), 0, 0, 0);
-                case 33 -> call(m, near(4), new int[] {0, 8, 16, 32, 8, 16, 32, 7}[upTo(8)],
+                case "lies", "granted", "bestAt", "edgeFor", "kindFor" -> call(m, p, 0, 0, 0, 0);
+                case "gap", "swap" -> call(m, p, q, 0, 0, 0);
+                case "edge" -> call(m, p, near(2), 0, 0, 0);
+                case "go" -> call(m, random.nextInt(3) == 0 ? near(61) : 1 + upTo(4), 0, 0, 0, 0);
+                case "now" -> call(m, near(8), 0, 0, 0, 0);
+                case "ahead" -> call(m, p, random.nextInt(5) == 0 ? near(7) : random.nextBoolean() ? 1 : 5, near(101), 0, 0);
+                case "sum" -> call(m, near(101), 0, 0, 0, 0);
+                case "when", "turn" -> call(m, random.nextInt(8) == 0 ? near(1000) : near(50), 0, 0, 0, 0);
+                case "comes" -> call(m, p, near(8), 0, 0, 0);
+                case "fits", "kinds" -> toldSums(m, p);
+                case "tip" -> call(m, near(21), 0, 0, 0, 0);
+                case "odds" -> call(m, near(11), near(2), 0, 0, 0);
+                case "seed" -> call(m, random.nextInt(), 0, 0, 0, 0);
+                case "feed" -> call(m, random.nextInt(), near(5), 0, 0, 0);
+                case "hold" -> call(m, near(10), random.nextInt(5) == 0 ? -1 : p, 0, 0, 0);
+                case "as" -> call(m, near(10), near(7), 0, 0, 0);
+                case "sheet" -> call(m, near(4), new int[] {0, 8, 16, 32, 8, 16, 32, 7}[upTo(8)],
                     random.nextInt(8) == 0 ? -upTo(3) : near(random.nextBoolean() ? 10 : 41), 0, 0);
-                case 34 -> call(m, near(4), near(10), random.nextInt(4) == 0 ? random.nextInt() : near(10), 0, 0);
-                case 35 -> call(m, near(4), near(6), near(4), near(6), near(6));
-                case 36 -> call(m, near(4), 0, 0, 0, 0);
-                case 37 -> judge();
-                case 38, 39, 40 -> call(m, 0, 0, 0, 0, 0);
-                case 41 -> call(m, near(8), 0, 0, 0, 0);
-                case 42 -> call(m, near(8) - 1, 0, 0, 0, 0);
+                case "write" -> call(m, near(4), near(10), random.nextInt(4) == 0 ? random.nextInt() : near(10), 0, 0);
+                case "copy" -> call(m, near(4), near(6), near(4), near(6), near(6));
+                case "load" -> call(m, near(4), 0, 0, 0, 0);
+                case "judge" -> judge();
+                case "image", "undo", "tear" -> call(m, 0, 0, 0, 0, 0);
+                case "count" -> call(m, near(8), 0, 0, 0, 0);
+                case "status" -> call(m, near(8) - 1, 0, 0, 0, 0);
                 default -> call(m, 0, 0, 0, 0, 0);
             }
         }
 
         /** A sheet that tells sums as they will be, with some left open, so that some trial fits. */
-        private void toldSums(int m, int p) {
+        private void toldSums(String m, int p) {
             int s = near(4);
             if (s >= 0 && s < 4 && random.nextBoolean()) {
                 int n = 1 + upTo(14);
                 int[] bits = {8, 16, 32};
-                call(33, s, bits[upTo(3)], n, 0, 0);
+                call("sheet", s, bits[upTo(3)], n, 0, 0);
                 for (int i = 0; i < n; i++) {
                     int told = random.nextInt(3) == 0 || i >= 12 ? model.sum(i) : -1;
-                    call(34, s, i, random.nextInt(30) == 0 ? told + 1 : told, 0, 0);
+                    call("write", s, i, random.nextInt(30) == 0 ? told + 1 : told, 0, 0);
                 }
             }
             call(m, s, p, 0, 0, 0);
@@ -137,17 +144,17 @@ public final class ModelTest {
             int s = near(4);
             if (s >= 0 && s < 4 && random.nextBoolean()) {
                 int n = Math.max(0, model.now.pieces.size() + upTo(3) - 1);
-                call(33, s, 8, n, 0, 0);
+                call("sheet", s, 8, n, 0, 0);
                 for (int i = 0; i < n; i++) {
                     boolean lies = i < model.now.row.size() && random.nextInt(12) > 0;
-                    call(34, s, i, lies ? model.now.row.get(i) : upTo(8), 0, 0);
+                    call("write", s, i, lies ? model.now.row.get(i) : upTo(8), 0, 0);
                 }
             }
-            call(37, s, 0, 0, 0, 0);
+            call("judge", s, 0, 0, 0, 0);
         }
 
         private void feedText(String text) {
-            call(29, 0, 0, 0, 0, 0);
+            call("wipe", 0, 0, 0, 0, 0);
             int i = 0;
             while (i < text.length() && i < 120) {
                 int n = Math.min(1 + upTo(4), text.length() - i);
@@ -155,10 +162,10 @@ public final class ModelTest {
                 for (int k = 0; k < n; k++) {
                     bytes = bytes << 8 | text.charAt(i + k);
                 }
-                call(28, bytes, n, 0, 0, 0);
+                call("feed", bytes, n, 0, 0, 0);
                 i += n;
             }
-            call(30, 0, 0, 0, 0, 0);
+            call("text", 0, 0, 0, 0, 0);
         }
 
         private String randomText() {
@@ -209,12 +216,12 @@ public final class ModelTest {
             }
         }
 
-        private void call(int m, int a, int b, int c, int d, int e) {
+        private void call(String m, int a, int b, int c, int d, int e) {
             if (calling == 0) {
                 return;
             }
             calling--;
-            String name = "run " + number + ": method " + m + "(" + a + ", " + b + ", " + c + ", " + d + ", " + e + ")";
+            String name = "run " + number + ": " + m + "(" + a + ", " + b + ", " + c + ", " + d + ", " + e + ")";
             long got = answer(real, m, a, b, c, d, e);
             long want = model.answer(m, a, b, c, d, e);
             calls.add(name + " " + got);
@@ -222,49 +229,49 @@ public final class ModelTest {
         }
     }
 
-    private static long answer(CountyJigsaw x, int m, int a, int b, int c, int d, int e) {
+    private static long answer(CountyJigsaw x, String m, int a, int b, int c, int d, int e) {
         return switch (m) {
-            case 0 -> x.list(a, b, c);
-            case 1 -> x.listed(a);
-            case 2 -> x.piece(a, b, c);
-            case 3 -> x.of(a, b);
-            case 4 -> x.change(a, b, c);
-            case 5 -> x.lies(a);
-            case 6 -> x.gap(a, b);
-            case 7 -> x.edge(a, b);
-            case 8 -> x.swap(a, b);
-            case 9 -> x.go(a);
-            case 10 -> x.now(a);
-            case 11 -> x.ahead(a, b, c);
-            case 12 -> x.sum(a);
-            case 13 -> x.when(a);
-            case 14 -> x.comes(a, b);
-            case 15, 16 -> x.granted(a);
-            case 17 -> x.best();
-            case 18 -> x.bestAt(a);
-            case 19 -> x.settle();
-            case 20 -> x.edgeFor(a);
-            case 21 -> x.kindFor(a);
-            case 22 -> x.turn(a);
-            case 23 -> x.fits(a, b);
-            case 24 -> x.kinds(a, b);
-            case 25 -> x.tip(a);
-            case 26 -> x.odds(a, b);
-            case 27 -> x.seed(a);
-            case 28 -> x.feed(a, b);
-            case 29 -> x.wipe();
-            case 30 -> x.text();
-            case 31 -> x.hold(a, b);
-            case 32 -> x.as(a, b);
-            case 33 -> x.sheet(a, b, c);
-            case 34 -> x.write(a, b, c);
-            case 35 -> x.copy(a, b, c, d, e);
-            case 36 -> x.load(a);
-            case 37 -> x.judge(a);
-            case 38 -> x.image();
-            case 39 -> x.undo();
-            case 40 -> x.tear();
-            case 41 -> x.count(a);
+            case "list" -> x.list(a, b, c);
+            case "listed" -> x.listed(a);
+            case "piece" -> x.piece(a, b, c);
+            case "of" -> x.of(a, b);
+            case "change" -> x.change(a, b, c);
+            case "lies" -> x.lies(a);
+            case "gap" -> x.gap(a, b);
+            case "edge" -> x.edge(a, b);
+            case "swap" -> x.swap(a, b);
+            case "go" -> x.go(a);
+            case "now" -> x.now(a);
+            case "ahead" -> x.ahead(a, b, c);
+            case "sum" -> x.sum(a);
+            case "when" -> x.when(a);
+            case "comes" -> x.comes(a, b);
+            case "granted" -> x.granted(a);
+            case "best" -> x.best();
+            case "bestAt" -> x.bestAt(a);
+            case "settle" -> x.settle();
+            case "edgeFor" -> x.edgeFor(a);
+            case "kindFor" -> x.kindFor(a);
+            case "turn" -> x.turn(a);
+            case "fits" -> x.fits(a, b);
+            case "kinds" -> x.kinds(a, b);
+            case "tip" -> x.tip(a);
+            case "odds" -> x.odds(a, b);
+            case "seed" -> x.seed(a);
+            case "feed" -> x.feed(a, b);
+            case "wipe" -> x.wipe();
+            case "text" -> x.text();
+            case "hold" -> x.hold(a, b);
+            case "as" -> x.as(a, b);
+            case "sheet" -> x.sheet(a, b, c);
+            case "write" -> x.write(a, b, c);
+            case "copy" -> x.copy(a, b, c, d, e);
+            case "load" -> x.load(a);
+            case "judge" -> x.judge(a);
+            case "image" -> x.image();
+            case "undo" -> x.undo();
+            case "tear" -> x.tear();
+            case "count" -> x.count(a);
             default -> x.status(a);
         };
     }
@@ -486,7 +493,7 @@ public final class ModelTest {
             }
             int[] best = new int[size + 1];
             best[size] = Integer.MAX_VALUE;
-            allOrders(weight, new int[size], 0, 0, best);
+            allOrders(weight, new int[size], 0, 0, 0, best);
             List<Integer> laid = new ArrayList<>();
             for (int i = 0; i < size; i++) {
                 laid.add(best[i]);
@@ -494,7 +501,7 @@ public final class ModelTest {
             return laid;
         }
 
-        private void allOrders(int[] weight, int[] laid, int n, int sum, int[] best) {
+        private void allOrders(int[] weight, int[] laid, int n, int used, int sum, int[] best) {
             if (n == laid.length) {
                 int whole = sum + (n == 0 ? 0 : weight[10 * laid[n - 1] + 9]);
                 if (whole < best[n]) {
@@ -504,13 +511,10 @@ public final class ModelTest {
                 return;
             }
             for (int p = 0; p < laid.length; p++) {
-                boolean free = true;
-                for (int i = 0; i < n; i++) {
-                    free &= laid[i] != p;
-                }
-                if (free) {
+                if ((used >> p & 1) == 0) {
                     laid[n] = p;
-                    allOrders(weight, laid, n + 1, sum + (n == 0 ? weight[10 * p + 8] : weight[10 * laid[n - 1] + p]), best);
+                    int step = n == 0 ? weight[10 * p + 8] : weight[10 * laid[n - 1] + p];
+                    allOrders(weight, laid, n + 1, used | 1 << p, sum + step, best);
                 }
             }
         }
@@ -550,9 +554,9 @@ public final class ModelTest {
         private final int[] bits = new int[4];
         private final int[] findings = new int[7];
 
-        long answer(int m, int a, int b, int c, int d, int e) {
+        long answer(String m, int a, int b, int c, int d, int e) {
             try {
-                return m < 23 ? first(m, a, b, c) : m < 31 ? second(m, a, b) : third(m, a, b, c, d, e);
+                return first(m, a, b, c, d, e);
             } catch (Finding finding) {
                 findings[finding.which]++;
                 return -1000001 - finding.which;
@@ -582,65 +586,65 @@ public final class ModelTest {
             return now.later(n).sum();
         }
 
-        private long first(int m, int a, int b, int c) {
+        private long first(String m, int a, int b, int c, int d, int e) {
             switch (m) {
-                case 0 -> {
+                case "list" -> {
                     ask(0, in(a, 0, 5) && in(b, 0, 7) && in(c, 0, 7));
                     int was = now.list[a];
                     now.list[a] = 10 * b + c;
                     return was;
                 }
-                case 1 -> {
+                case "listed" -> {
                     ask(0, in(a, 0, 5));
                     return now.list[a];
                 }
-                case 2 -> {
+                case "piece" -> {
                     ask(0, in(a, 0, 6) && in(b, 0, 9) && in(c, 0, 9));
                     ask(1, now.pieces.size() < 8);
                     now.add(new Piece(a, b, c));
                     return now.pieces.size() - 1;
                 }
-                case 3 -> {
+                case "of" -> {
                     asksPiece(a);
                     ask(0, in(b, 0, 6));
                     return of(now, a, b);
                 }
-                case 4 -> {
+                case "change" -> {
                     return change(a, b, c);
                 }
-                case 5 -> {
+                case "lies" -> {
                     asksPiece(a);
                     return now.row.get(a);
                 }
-                case 6 -> {
+                case "gap" -> {
                     asksPiece(a);
                     asksPiece(b);
                     ask(0, a != b);
                     return now.gap(a, b);
                 }
-                case 7 -> {
+                case "edge" -> {
                     asksPiece(a);
                     ask(0, in(b, 0, 1));
                     return now.edge(a, b);
                 }
-                case 8 -> {
+                case "swap" -> {
                     asksPiece(a);
                     asksPiece(b);
                     now.exchange(a, b);
                     return now.sum();
                 }
-                case 9 -> {
+                case "go" -> {
                     ask(0, in(a, 1, 60));
                     ask(4, now.year + a <= 99999);
                     now = now.later(a);
                     return now.sum();
                 }
-                case 10 -> {
+                case "now" -> {
                     ask(0, in(a, 0, 7));
                     return nowOf(a);
                 }
                 default -> {
-                    return future(m, a, b, c);
+                    return future(m, a, b, c, d, e);
                 }
             }
         }
@@ -707,29 +711,29 @@ public final class ModelTest {
             return best;
         }
 
-        private long future(int m, int a, int b, int c) {
+        private long future(String m, int a, int b, int c, int d, int e) {
             switch (m) {
-                case 11 -> {
+                case "ahead" -> {
                     asksPiece(a);
                     ask(0, b == 1 || b == 5);
                     ask(0, in(c, 0, 100));
                     return of(now.later(c), a, b);
                 }
-                case 12 -> {
+                case "sum" -> {
                     ask(0, in(a, 0, 100));
                     return sum(a);
                 }
-                case 13, 14, 15, 16 -> {
+                case "when", "comes", "granted" -> {
                     return wait(m, a, b);
                 }
-                case 17 -> {
+                case "best" -> {
                     return now.sum(now.best());
                 }
-                case 18 -> {
+                case "bestAt" -> {
                     asksPiece(a);
                     return now.best().get(a);
                 }
-                case 19 -> {
+                case "settle" -> {
                     int times = 0;
                     for (List<Integer> next = better(); next != null; next = better()) {
                         Collections.copy(now.row, next);
@@ -737,27 +741,34 @@ public final class ModelTest {
                     }
                     return times;
                 }
-                case 20, 21 -> {
+                case "edgeFor", "kindFor" -> {
                     asksPiece(a);
-                    return bestValue(a, m == 20);
+                    return bestValue(a, m.equals("edgeFor"));
                 }
-                default -> {
+                case "turn" -> {
                     ask(0, in(a, 0, 999));
                     return turn(a);
+                }
+                default -> {
+                    return second(m, a, b, c, d, e);
                 }
             }
         }
 
-        private int wait(int m, int a, int b) {
-            if (m == 13) {
+        private int wait(String m, int a, int b) {
+            if (m.equals("when")) {
                 ask(0, in(a, 0, 999));
             } else {
                 asksPiece(a);
-                ask(0, m != 14 || in(b, 0, 7));
+                ask(0, !m.equals("comes") || in(b, 0, 7));
             }
             State later = now.twin();
             for (int n = 0; n <= 200; n++) {
-                boolean isSo = m == 13 ? later.sum() <= a : m == 14 ? later.row.indexOf(a) == b : later.isGranted(a);
+                boolean isSo = switch (m) {
+                    case "when" -> later.sum() <= a;
+                    case "comes" -> later.row.indexOf(a) == b;
+                    default -> later.isGranted(a);
+                };
                 if (isSo) {
                     return n;
                 }
@@ -795,14 +806,14 @@ public final class ModelTest {
             throw new Finding(3);
         }
 
-        private long second(int m, int a, int b) {
+        private long second(String m, int a, int b, int c, int d, int e) {
             switch (m) {
-                case 23, 24 -> {
+                case "fits", "kinds" -> {
                     asksSheet(a);
                     asksPiece(b);
-                    return m == 23 ? fits(a, b) : kinds(a, b);
+                    return m.equals("fits") ? fits(a, b) : kinds(a, b);
                 }
-                case 25 -> {
+                case "tip" -> {
                     ask(0, in(a, 1, 20));
                     ask(4, now.year + a <= 99999);
                     for (int i = 0; i < a; i++) {
@@ -812,16 +823,16 @@ public final class ModelTest {
                     }
                     return now.sum();
                 }
-                case 26 -> {
+                case "odds" -> {
                     ask(0, in(a, 0, 10) && in(b, 0, 1));
                     return odds(a, b);
                 }
-                case 27 -> {
+                case "seed" -> {
                     int was = now.z;
                     now.z = a;
                     return was;
                 }
-                case 28 -> {
+                case "feed" -> {
                     ask(0, in(b, 1, 4));
                     ask(1, tape.size() + b <= 120);
                     for (int i = b - 1; i >= 0; i--) {
@@ -829,13 +840,16 @@ public final class ModelTest {
                     }
                     return tape.size();
                 }
-                case 29 -> {
+                case "wipe" -> {
                     int had = tape.size();
                     tape.clear();
                     return had;
                 }
-                default -> {
+                case "text" -> {
                     return text();
+                }
+                default -> {
+                    return third(m, a, b, c, d, e);
                 }
             }
         }
@@ -871,17 +885,17 @@ public final class ModelTest {
         }
 
         private long odds(int n, int what) {
-            java.math.BigInteger above = java.math.BigInteger.ZERO;
+            BigInteger above = BigInteger.ZERO;
             for (int both = 0; both < 64; both++) {
                 State other = now.twin();
                 other.exchange(both / 8, both % 8);
                 if (other.sum() <= now.sum()) {
-                    above = above.add(java.math.BigInteger.ONE);
+                    above = above.add(BigInteger.ONE);
                 }
             }
             above = above.pow(n);
-            java.math.BigInteger below = java.math.BigInteger.valueOf(64).pow(n);
-            java.math.BigInteger common = above.gcd(below);
+            BigInteger below = BigInteger.valueOf(64).pow(n);
+            BigInteger common = above.gcd(below);
             return (what == 0 ? above : below).divide(common).longValueExact();
         }
 
@@ -903,8 +917,8 @@ public final class ModelTest {
 
         private static List<Token> tokens(String text) {
             List<Token> tokens = new ArrayList<>();
-            java.util.regex.Matcher matcher =
-                java.util.regex.Pattern.compile("[a-z]+|[0-9]+|;|[^ ]", java.util.regex.Pattern.DOTALL).matcher(text);
+            Matcher matcher =
+                Pattern.compile("[a-z]+|[0-9]+|;|[^ ]", Pattern.DOTALL).matcher(text);
             while (matcher.find()) {
                 char c = matcher.group().charAt(0);
                 char sort = c >= 'a' && c <= 'z' ? 'w' : c >= '0' && c <= '9' ? 'n' : c;
@@ -955,7 +969,7 @@ public final class ModelTest {
 
         private static int number(List<Token> tokens, int most) throws Fault {
             Token token = tokens.remove(0);
-            if (token.sort() != 'n' || new java.math.BigInteger(token.word()).compareTo(java.math.BigInteger.valueOf(most)) > 0) {
+            if (token.sort() != 'n' || new BigInteger(token.word()).compareTo(BigInteger.valueOf(most)) > 0) {
                 throw new Fault(token.place());
             }
             return Integer.parseInt(token.word());
@@ -963,9 +977,9 @@ public final class ModelTest {
 
         // ---- spots, sheets, images
 
-        private long third(int m, int a, int b, int c, int d, int e) {
+        private long third(String m, int a, int b, int c, int d, int e) {
             switch (m) {
-                case 31 -> {
+                case "hold" -> {
                     ask(0, in(a, 0, 9) && (b == -1 || now.has(b)));
                     if (b == -1) {
                         now.spots.remove(a);
@@ -974,26 +988,26 @@ public final class ModelTest {
                     }
                     return 1;
                 }
-                case 32 -> {
+                case "as" -> {
                     ask(0, in(a, 0, 9) && in(b, 0, 6));
                     ask(5, now.spots.containsKey(a));
                     int held = now.spots.get(a);
                     ask(2, KINDS.get(b).getClass().isInstance(KINDS.get(now.pieces.get(held).kind)));
                     return held;
                 }
-                case 33 -> {
+                case "sheet" -> {
                     return sheet(a, b, c);
                 }
-                case 34 -> {
+                case "write" -> {
                     asksSheet(a);
                     ask(0, in(b, 0, sheets[a].length - 1));
                     sheets[a][b] = bits[a] == 8 ? (byte) c : bits[a] == 16 ? (short) c : c;
                     return 1;
                 }
-                case 35 -> {
+                case "copy" -> {
                     return copy(a, b, c, d, e);
                 }
-                case 36 -> {
+                case "load" -> {
                     asksSheet(a);
                     for (int i = 0; i < sheets[a].length; i++) {
                         if (sheets[a][i] < 0 || sheets[a][i] > 9 || !now.has(i)) {
@@ -1003,7 +1017,7 @@ public final class ModelTest {
                     }
                     return sheets[a].length;
                 }
-                case 37 -> {
+                case "judge" -> {
                     asksSheet(a);
                     for (int i = 0; i < sheets[a].length; i++) {
                         if (i >= now.row.size() || sheets[a][i] != now.row.get(i)) {
@@ -1040,23 +1054,23 @@ public final class ModelTest {
             return n;
         }
 
-        private long images(int m, int a) {
+        private long images(String m, int a) {
             switch (m) {
-                case 38 -> {
+                case "image" -> {
                     kept = now.twin();
                     return 1;
                 }
-                case 39 -> {
+                case "undo" -> {
                     ask(3, kept != null);
                     now = kept.twin();
                     return now.year;
                 }
-                case 40 -> {
+                case "tear" -> {
                     int was = kept == null ? 0 : 1;
                     kept = null;
                     return was;
                 }
-                case 41 -> {
+                case "count" -> {
                     ask(0, in(a, 0, 7));
                     long[] all = {now.year, now.pieces.size(), now.sum(), Integer.bitCount(nowOf(5)),
                         Integer.bitCount(nowOf(3)), tape.size(), now.z, now.spots.size()};

@@ -4,6 +4,7 @@ public final class PromiseTest {
     private static final int FULL = -1000002;
     private static final int KIND = -1000003;
     private static final int NONE = -1000004;
+    private static final int STATE = -1000005;
     private static final int MISSING = -1000006;
     private static final int SIZE = -1000007;
     private static final int MIN = Integer.MIN_VALUE;
@@ -49,6 +50,7 @@ public final class PromiseTest {
         images();
         counts();
         statuses();
+        lastYear();
         CHECKS.end();
     }
 
@@ -270,6 +272,13 @@ public final class PromiseTest {
         x.go(1);
         due(x.gap(0, 1), 5);
         due(x.gap(0, 2), 2);
+        x.go(1);
+        due(x.gap(0, 2), 0);
+        x.go(1);
+        due(x.gap(0, 2), 1);
+        CountyJigsaw grass = county(5, 0, 3, 0, 4, 0, 0, 3, 0);
+        due(grass.gap(0, 1), 1);
+        due(grass.gap(0, 2), 0);
     }
 
     private static void edges() {
@@ -358,6 +367,9 @@ public final class PromiseTest {
 
     private static void present() {
         promise(12);
+        due(county(0, 0, 5, 0, 0, 4, 0, 0, 0).now(4), 5);
+        due(county(0, 0, 4, 0, 0, 5, 0, 0, 0).now(4), 5);
+        due(county(0, 0, 0, 0, 0, 0, 0, 0, 0).now(2), 3);
         CountyJigsaw x = county(1, 1, 2, 0, 2, 8, 2, 8, 3, 3, 5, 5);
         x.change(0, 3, 1);
         x.change(1, 3, 2);
@@ -496,12 +508,64 @@ public final class PromiseTest {
         for (int p = 0; p < 4; p++) {
             for (int place = 0; place < 4; place++) {
                 int n = 0;
-                while (x.ahead(p, 5, n) != place) {
+                while (n < 100 && x.ahead(p, 5, n) != place) {
                     n++;
                 }
                 due(x.comes(p, place), n);
             }
         }
+        promise(15);
+        // worked out beside the class: SUM is 7 for the first time behind 200 YEARS, 11 there behind 201
+        x = county(5, 0, 8, 3, 3, 3, 3, 5, 1, 5, 6, 9, 3, 6, 4, 0, 3, 0, 2, 3, 5, 0, 7, 9);
+        tellList(x, 5, 41, 2, 37, 32, 10);
+        due(x.when(7), 200);
+        due(x.when(6), NONE);
+        x = county(1, 5, 0, 6, 5, 8, 4, 4, 6, 5, 4, 0, 4, 8, 5, 5, 4, 6, 3, 2, 9, 6, 9, 5);
+        tellList(x, 16, 32, 26, 54, 65, 67);
+        due(x.when(11), NONE);
+        x.go(1);
+        due(x.when(11), 200);
+    }
+
+    private static void tellList(CountyJigsaw x, int... swaps) {
+        for (int i = 0; i < swaps.length; i++) {
+            x.list(i, swaps[i] / 10, swaps[i] % 10);
+        }
+    }
+
+    /** More than 512 calls: the document leaves these answers free, but the class keeps to its words there, too. */
+    private static void lastYear() {
+        promise(11);
+        CountyJigsaw x = county(0, 1, 1, 0, 2, 2);
+        x.list(3, 0, 1);
+        for (int i = 0; i < 1666; i++) {
+            x.go(60);
+        }
+        due(x.count(0), 99960);
+        due(x.go(40), STATE);
+        due(x.go(61), BEYOND);
+        due(x.go(38), x.count(2));
+        due(x.count(0), 99998);
+        promise(26);
+        due(x.tip(2), STATE);
+        due(x.tip(21), BEYOND);
+        due(x.count(6), 1);
+        x.image();
+        due(x.tip(1), x.count(2));
+        due(x.count(0), 99999);
+        due(x.undo(), 99998);
+        promise(11);
+        due(x.go(1), x.count(2));
+        due(x.go(1), STATE);
+        due(x.count(0), 99999);
+        due(x.status(4), 3);
+        promise(13);
+        // YEAR stays: from here on each YEAR makes the SWAP of place 3, and there is no cut
+        int place = x.of(0, 5);
+        due(x.ahead(0, 5, 1), 1 - place);
+        due(x.ahead(0, 5, 2), place);
+        due(x.ahead(0, 5, 99), 1 - place);
+        due(x.ahead(0, 1, 99), x.of(0, 1));
     }
 
     private static void bestLayings() {
@@ -516,6 +580,7 @@ public final class PromiseTest {
         due(x.best(), 0);
         due(x.lies(0), 0);
         promise(19);
+        due(county(0, 7, 1, 0, 1, 7).bestAt(0), 1);
         due(x.bestAt(0), 1);
         due(x.bestAt(1), 0);
         due(x.bestAt(2), 2);
@@ -609,6 +674,17 @@ public final class PromiseTest {
         due(x.turn(-1), BEYOND);
         due(x.turn(1000), BEYOND);
         due(new CountyJigsaw().turn(0), 0);
+        // each must be turned for the next one to meet it
+        CountyJigsaw all = county(0, 1, 0, 0, 2, 1, 0, 3, 2, 0, 4, 3, 0, 5, 4, 0, 6, 5, 0, 7, 6, 0, 0, 7);
+        due(all.turn(0), 255);
+        due(all.turn(1), 255);
+        // to turn the first or the last gives 10: the lesser set counts
+        CountyJigsaw any = county(0, 2, 1, 0, 5, 5, 0, 4, 5);
+        due(any.count(2), 2 + 4 + 1 + 5);
+        due(any.turn(10), 1);
+        due(any.turn(9), 5);
+        due(any.turn(8), 5);
+        due(any.turn(7), NONE);
     }
 
     private static void toldSums() {
@@ -817,14 +893,18 @@ public final class PromiseTest {
             "farm 0 0 turned wants 1", "farm 0 0 sky 0 0", "farm 0 0;;sky 0 0", "farm 0 0,sky 0 0", "farm\t0 0",
             "farm -1 0", "swap", "swap 6 0 0", "swap 0 8 0", "swap 0 0 8", "swap 0 0", "swap 0 0 0 0", "lay 0 0",
             "sky 1 1;lay 0 1", "sky 1 1;lay 1 0", "sky 1 1;lay 0", "sky 1 1;lay 0 0 0", "sky 1 1;lay 0 0 turned",
-            "sky 1 1;swap 0 0 0 turned", "farm ; 0", "farm 0 0 wants ;", "farm 0 0 ?", "farm 0 wants 1"};
+            "sky 1 1;swap 0 0 0 turned", "farm ; 0", "farm 0 0 wants ;", "farm 0 0 ?", "farm 0 wants 1",
+            "barm 0 0", "slap 0 0 0", "sway 0 0 0", "sky 1 1;bay 0 0", "sky 1 1 pants 0", "sky 1 1 burned", "zky 1 1", "{ky 1 1",
+            "`ky 1 1", "sky : 1", "sky / 1", "sky 1 1 ;\u00f3"};
         int[] due = {0, 3, 4, 5, 6, 9, 10, 0, 0, 0, 0,
             0, 0, 0, 5, 7, 7, 5,
             9, 14, 15, 17, 16,
             16, 9, 9, 8, 4,
             5, 4, 5, 7, 9, 8, 11, 4,
             14, 12, 13, 16, 16,
-            19, 5, 15, 9, 7};
+            19, 5, 15, 9, 7,
+            0, 0, 0, 8, 8, 8, 0, 0,
+            0, 4, 4, 9};
         for (int i = 0; i < texts.length; i++) {
             fault(x, texts[i], due[i]);
         }
