@@ -1,3 +1,4 @@
+import java.io.IOException;
 import java.lang.management.ManagementFactory;
 import java.lang.reflect.Constructor;
 import java.lang.reflect.Field;
@@ -16,56 +17,12 @@ import java.util.regex.Pattern;
 
 /** The public face, the rules of LANGUAGE.md that a test can see, and that calls neither throw nor allocate. */
 public final class FormTest {
-    private static final String FACE = """
-        int list(int,int,int)
-        int listed(int)
-        int piece(int,int,int)
-        int of(int,int)
-        int change(int,int,int)
-        int lies(int)
-        int gap(int,int)
-        int edge(int,int)
-        int swap(int,int)
-        int go(int)
-        int now(int)
-        int ahead(int,int,int)
-        int sum(int)
-        int when(int)
-        int comes(int,int)
-        int granted(int)
-        int best()
-        int bestAt(int)
-        int settle()
-        int edgeFor(int)
-        int kindFor(int)
-        int turn(int)
-        int fits(int,int)
-        int kinds(int,int)
-        int tip(int)
-        long odds(int,int)
-        int seed(int)
-        int feed(int,int)
-        int wipe()
-        int text()
-        int hold(int,int)
-        int as(int,int)
-        int sheet(int,int,int)
-        int write(int,int,int)
-        int copy(int,int,int,int,int)
-        int load(int)
-        int judge(int)
-        int image()
-        int undo()
-        int tear()
-        int count(int)
-        int status(int)
-        """;
     private static final Checks CHECKS = new Checks();
 
     public static void main(String[] args) throws Exception {
         Path root = Path.of(args.length > 0 ? args[0] : ".");
         String source = Files.readString(root.resolve("src/main/java/CountyJigsaw.java"));
-        face();
+        face(document(root));
         members();
         words(withoutComments(source));
         methodLengths(source);
@@ -74,7 +31,22 @@ public final class FormTest {
         CHECKS.end();
     }
 
-    private static void face() {
+    private static String document(Path root) throws IOException {
+        return Files.readString(root.resolve("../shared/DOC.md"));
+    }
+
+    /** The methods of the face in the document, told as told() tells those of the class. */
+    private static Set<String> promised(String document) {
+        Set<String> promised = new TreeSet<>();
+        Matcher matcher = Pattern.compile("(?m)^    public (int|long) (\\w+)\\((.*)\\);$").matcher(document);
+        while (matcher.find()) {
+            String types = matcher.group(3).replaceAll("int \\w+", "int").replace(", ", ",");
+            promised.add(matcher.group(1) + " " + matcher.group(2) + "(" + types + ")");
+        }
+        return promised;
+    }
+
+    private static void face(String document) {
         Class<?> type = CountyJigsaw.class;
         CHECKS.holds("the class is public and final",
             Modifier.isPublic(type.getModifiers()) && Modifier.isFinal(type.getModifiers()));
@@ -87,7 +59,8 @@ public final class FormTest {
                 CHECKS.holds(method.getName() + " is public, and of an object", method.getModifiers() == Modifier.PUBLIC);
             }
         }
-        CHECKS.holds("the methods are those of the face: " + open, open.equals(new TreeSet<>(FACE.strip().lines().toList())));
+        CHECKS.due("methods of the document's face", promised(document).size(), 42);
+        CHECKS.holds("the methods are those of the face: " + open, open.equals(promised(document)));
         for (Constructor<?> constructor : type.getDeclaredConstructors()) {
             CHECKS.holds("the constructor is public and takes nothing",
                 Modifier.isPublic(constructor.getModifiers()) && constructor.getParameterCount() == 0);
